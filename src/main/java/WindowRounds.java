@@ -967,11 +967,13 @@ public final class WindowRounds {
         }
 
         void appendToRow(int r, int s) {
-            if (!isRound(r) || s < 0 || s >= roundsOf.length || sizeOf(r) >= STOPS) {
+            int k = sizeOf(r);
+            int i = r * STOPS + k;
+            if (!isRound(r) || s < 0 || s >= roundsOf.length || k >= STOPS || i < 0 || i >= rows.length) {
                 return;
             }
-            rows[r * STOPS + sizes[r]] = s;
-            sizes[r]++;
+            rows[i] = s;
+            sizes[r] = k + 1;
             roundsOf[s] = r;
         }
 
@@ -995,7 +997,10 @@ public final class WindowRounds {
         }
 
         int addsAt(int s, int r, int k) {
-            return detour(rowAt(r, k - 1), s, rowAt(r, k)) + (sizeOf(r) == 0 ? fixed : 0);
+            int before = rowAt(r, k - 1);
+            int after = rowAt(r, k);
+            int miles = way(before, s) + way(s, after) - way(before, after);
+            return miles + (sizeOf(r) == 0 ? fixed : 0);
         }
 
         int milesOf(int r) {
@@ -1233,89 +1238,89 @@ public final class WindowRounds {
         int place;
         int adds;
         int regret;
+        int chosen;
+        int chosenRound;
+        int chosenPlace;
+        int chosenAdds;
+        int chosenRegret;
 
         /** The CHEAPEST of the ROUNDS from one to another, and the REGRET among these. */
         void weigh(World w, int s, int from, int to) {
             round = NIL;
             regret = NO_SECOND;
             for (int r = from; r <= to && r < ROUNDS; r++) {
-                int k = cheapestPlace(w, s, r);
-                if (k == NIL) {
-                    continue;
+                int cheapest = NIL;
+                int least = 0;
+                for (int k = 0; k <= w.sizeOf(r); k++) {
+                    int cost = w.addsAt(s, r, k);
+                    // What isn't cheaper needn't be followed.
+                    if (cheapest != NIL && cost >= least) {
+                        continue;
+                    }
+                    draft.load(w, r);
+                    draft.insert(k, s);
+                    if (draft.follow(w, 0)) {
+                        cheapest = k;
+                        least = cost;
+                    }
                 }
-                int cost = w.addsAt(s, r, k);
-                if (round == NIL || cost < adds) {
-                    regret = round == NIL ? NO_SECOND : adds - cost;
-                    round = r;
-                    place = k;
-                    adds = cost;
-                } else if (cost - adds < regret) {
-                    regret = cost - adds;
+                if (cheapest != NIL) {
+                    compareRound(r, cheapest, least);
                 }
             }
         }
 
-        int cheapestPlace(World w, int s, int r) {
-            int cheapest = NIL;
-            int least = 0;
-            for (int k = 0; k <= w.sizeOf(r); k++) {
-                int cost = w.addsAt(s, r, k);
-                // What isn't cheaper needn't be followed.
-                if (cheapest != NIL && cost >= least) {
-                    continue;
-                }
-                draft.load(w, r);
-                draft.insert(k, s);
-                if (draft.follow(w, 0)) {
-                    cheapest = k;
-                    least = cost;
-                }
+        void compareRound(int r, int k, int cost) {
+            if (round == NIL) {
+                keepRound(r, k, cost);
+            } else if (cost < adds) {
+                regret = adds - cost;
+                keepRound(r, k, cost);
+            } else if (cost - adds < regret) {
+                regret = cost - adds;
             }
-            return cheapest;
+        }
+
+        void keepRound(int r, int k, int cost) {
+            round = r;
+            place = k;
+            adds = cost;
         }
 
         int fillAll(World w) {
             int many = 0;
             for (int step = 0; step < STOPS; step++) {
-                int s = mostRegretted(w);
-                if (s == NIL) {
+                chosen = NIL;
+                for (int s = 0; s < w.stopCount; s++) {
+                    if (w.roundOf(s) == NIL) {
+                        weigh(w, s, 0, ROUNDS - 1);
+                        compareStop(s);
+                    }
+                }
+                if (chosen == NIL) {
                     break;
                 }
-                draft.load(w, round);
-                draft.insert(place, s);
+                draft.load(w, chosenRound);
+                draft.insert(chosenPlace, chosen);
                 draft.keep(w);
                 many++;
             }
             return many;
         }
 
-        /** Leaves round and place as they are for the STOP that it answers. */
-        int mostRegretted(World w) {
-            int chosen = NIL;
-            int chosenRound = NIL;
-            int chosenPlace = NIL;
-            int chosenAdds = 0;
-            int chosenRegret = 0;
-            for (int s = 0; s < w.stopCount; s++) {
-                if (w.roundOf(s) != NIL) {
-                    continue;
-                }
-                weigh(w, s, 0, ROUNDS - 1);
-                if (round == NIL) {
-                    continue;
-                }
-                boolean isLike = regret == chosenRegret;
-                if (chosen == NIL || regret > chosenRegret || isLike && adds < chosenAdds) {
-                    chosen = s;
-                    chosenRound = round;
-                    chosenPlace = place;
-                    chosenAdds = adds;
-                    chosenRegret = regret;
-                }
+        /** STOPS come by number: of wholly like ones the first stays. */
+        void compareStop(int s) {
+            if (round == NIL) {
+                return;
             }
-            round = chosenRound;
-            place = chosenPlace;
-            return chosen;
+            boolean isLike = regret == chosenRegret;
+            if (chosen == NIL || regret > chosenRegret || isLike && adds < chosenAdds) {
+                chosen = s;
+                chosenRound = round;
+                chosenPlace = place;
+                chosenAdds = adds;
+                chosenRegret = regret;
+            }
         }
     }
 
@@ -1477,8 +1482,9 @@ public final class WindowRounds {
 
         int standInGain(World w, int r, int k, int s) {
             int before = w.rowAt(r, k - 1);
+            int was = w.rowAt(r, k);
             int after = w.rowAt(r, k + 1);
-            return w.detour(before, w.rowAt(r, k), after) - w.detour(before, s, after);
+            return w.way(before, was) + w.way(was, after) - w.way(before, s) - w.way(s, after);
         }
 
         boolean tryTurn(World w, int r, int i, int j) {
