@@ -176,14 +176,9 @@ public final class WindowRounds {
     }
 
     public int put(int stop, int round, int k) {
-        if (!now.isStop(stop) || !isRound(round)) {
-            return NONE;
-        }
-        if (now.roundOf(stop) != NIL) {
-            return STATE;
-        }
-        if (!isUpTo(k, now.sizeOf(round))) {
-            return BAD;
+        int refused = refusalAt(stop, round, k);
+        if (refused != 0) {
+            return refused;
         }
         draft.load(now, round);
         draft.insert(k, stop);
@@ -304,14 +299,9 @@ public final class WindowRounds {
     }
 
     public int adds(int stop, int round, int k) {
-        if (!now.isStop(stop) || !isRound(round)) {
-            return NONE;
-        }
-        if (now.roundOf(stop) != NIL) {
-            return STATE;
-        }
-        if (!isUpTo(k, now.sizeOf(round))) {
-            return BAD;
+        int refused = refusalAt(stop, round, k);
+        if (refused != 0) {
+            return refused;
         }
         draft.load(now, round);
         draft.insert(k, stop);
@@ -727,6 +717,17 @@ public final class WindowRounds {
             }
         }
         return true;
+    }
+
+    /** Why a STOP can't be asked for at a place of a ROUND, whether or not that HOLDS then; 0: it can. */
+    private int refusalAt(int stop, int round, int k) {
+        if (!now.isStop(stop) || !isRound(round)) {
+            return NONE;
+        }
+        if (now.roundOf(stop) != NIL) {
+            return STATE;
+        }
+        return isUpTo(k, now.sizeOf(round)) ? 0 : BAD;
     }
 
     private boolean takeOut(World w, int s) {

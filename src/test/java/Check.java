@@ -41,4 +41,34 @@ public final class Check {
         }
         due("at(" + round + ", " + stops.length + ")", w.at(round, stops.length), WindowRounds.BAD);
     }
+
+    /** 1, 0, 2 on a line in ROUND 0, once more there and back than it must be, and 3 in ROUND 1: COST 96. */
+    static WindowRounds onALine() {
+        WindowRounds w = new WindowRounds();
+        w.stop(40, 32, 1, 0, 999, 0);
+        w.stop(48, 32, 1, 0, 999, 0);
+        w.stop(56, 32, 1, 0, 999, 0);
+        w.stop(32, 48, 1, 0, 999, 0);
+        w.put(1, 0, 0);
+        w.put(0, 0, 1);
+        w.put(2, 0, 2);
+        w.put(3, 1, 0);
+        return w;
+    }
+
+    /** ROUNDS 0 and 1 are full, with one STOP each at either side of THE DEPOT: just a SWAP mends it. */
+    static WindowRounds ofTwoSides() {
+        WindowRounds w = new WindowRounds();
+        w.stop(62, 32, 10, 0, 999, 0);
+        w.stop(2, 32, 10, 0, 999, 0);
+        w.stop(61, 32, 10, 0, 999, 0);
+        w.stop(3, 32, 10, 0, 999, 0);
+        w.rule(2, 0, 0);
+        w.rule(3, 0, 0);
+        w.put(0, 1, 0);
+        w.put(3, 1, 1);
+        w.put(1, 0, 0);
+        w.put(2, 0, 1);
+        return w;
+    }
 }

@@ -19,6 +19,7 @@ public final class CouldTest {
         promise24Shift();
         promise24ShiftByFixed();
         promise25Swap();
+        promise25SwapByTime();
         promise25SwapByRoom();
         promise26Late();
         promise26LateOfNone();
@@ -160,26 +161,12 @@ public final class CouldTest {
         }
     }
 
-    /** 1, 0, 2 on a line in ROUND 0, and 3 in ROUND 1. */
-    private static WindowRounds onALine() {
-        WindowRounds w = new WindowRounds();
-        w.stop(40, 32, 1, 0, 999, 0);
-        w.stop(48, 32, 1, 0, 999, 0);
-        w.stop(56, 32, 1, 0, 999, 0);
-        w.stop(32, 48, 1, 0, 999, 0);
-        w.put(1, 0, 0);
-        w.put(0, 0, 1);
-        w.put(2, 0, 2);
-        w.put(3, 1, 0);
-        return w;
-    }
-
     private static void promise22Best() {
         WindowRounds w = new WindowRounds();
         Check.due("no such what", w.best(5), NONE);
         Check.due("no such what", w.best(-1), NONE);
         best(w, NIL, NIL, NIL, NIL, NIL);
-        w = onALine();
+        w = Check.onALine();
         best(w, 1, 16, 0, 0, 1);
         Check.row(w, 0, 1, 0, 2);
         Check.due("each is counted", w.count(5), 5);
@@ -232,19 +219,8 @@ public final class CouldTest {
         best(w, 2, 20, 2, 3, 0);
     }
 
-    /** Two ROUNDS that are full, with one STOP each on the other one's way. */
     private static void promise22BestSwap() {
-        WindowRounds w = new WindowRounds();
-        w.stop(62, 32, 10, 0, 999, 0);
-        w.stop(2, 32, 10, 0, 999, 0);
-        w.stop(61, 32, 10, 0, 999, 0);
-        w.stop(3, 32, 10, 0, 999, 0);
-        w.rule(2, 0, 0);
-        w.rule(3, 0, 0);
-        w.put(0, 1, 0);
-        w.put(3, 1, 1);
-        w.put(1, 0, 0);
-        w.put(2, 0, 1);
+        WindowRounds w = Check.ofTwoSides();
         best(w, 3, 116, 0, 1, NIL);
         Check.due("as good", w.swap(2, 3), 116);
         w.lock(0, true);
@@ -254,7 +230,7 @@ public final class CouldTest {
     }
 
     private static void promise23Turn() {
-        WindowRounds w = onALine();
+        WindowRounds w = Check.onALine();
         Check.due("no such ROUND", w.turn(4, 0, 1), NONE);
         Check.due("no such ROUND", w.turn(-1, 0, 1), NONE);
         Check.due("i as j", w.turn(0, 1, 1), BAD);
@@ -283,7 +259,7 @@ public final class CouldTest {
     }
 
     private static void promise24Shift() {
-        WindowRounds w = onALine();
+        WindowRounds w = Check.onALine();
         w.stop(1, 1, 1, 1, 999, 1);
         Check.due("no such STOP", w.shift(5, 0, 0), NONE);
         Check.due("no such STOP", w.shift(-1, 0, 0), NONE);
@@ -340,7 +316,7 @@ public final class CouldTest {
     }
 
     private static void promise25Swap() {
-        WindowRounds w = onALine();
+        WindowRounds w = Check.onALine();
         w.stop(1, 1, 1, 1, 999, 1);
         Check.due("the same", w.swap(0, 0), NONE);
         Check.due("no such STOP", w.swap(0, 5), NONE);
@@ -368,6 +344,23 @@ public final class CouldTest {
         Check.due("3 is in time", w.swap(0, 3), MAY_NOT);
         w.set(3, 4, 48);
         Check.due("just in time", w.swap(0, 3), -32);
+    }
+
+    private static void promise25SwapByTime() {
+        WindowRounds w = Check.onALine();
+        w.set(1, 4, 40);
+        Check.due("1 comes behind 2 and 0", w.swap(1, 2), MAY_NOT);
+        w.set(0, 5, 8);
+        w.set(1, 4, 48);
+        Check.due("0 stays too long", w.swap(1, 2), MAY_NOT);
+        w.set(1, 4, 56);
+        Check.due("just in time", w.swap(1, 2), 0);
+        w.set(1, 4, 999);
+        w.set(2, 3, 60);
+        w.rule(0, 2, 107);
+        Check.due("not HOME in time", w.swap(1, 2), MAY_NOT);
+        w.rule(0, 2, 108);
+        Check.due("just HOME in time", w.swap(1, 2), 0);
     }
 
     private static void promise25SwapByRoom() {

@@ -78,22 +78,8 @@ public final class PlansTest {
         Check.row(w, 1, 0);
     }
 
-    /** 1, 0, 2 on a line, and 3 in another ROUND. */
-    private static WindowRounds onALine() {
-        WindowRounds w = new WindowRounds();
-        w.stop(40, 32, 1, 0, 999, 0);
-        w.stop(48, 32, 1, 0, 999, 0);
-        w.stop(56, 32, 1, 0, 999, 0);
-        w.stop(32, 48, 1, 0, 999, 0);
-        w.put(1, 0, 0);
-        w.put(0, 0, 1);
-        w.put(2, 0, 2);
-        w.put(3, 1, 0);
-        return w;
-    }
-
     private static void promise35EndsByMoves() {
-        WindowRounds w = onALine();
+        WindowRounds w = Check.onALine();
         w.plan(1, 0);
         ends(w, 80, 0);
         w.plan(1, 0);
@@ -115,7 +101,7 @@ public final class PlansTest {
     }
 
     private static void promise35EndsByLocks() {
-        WindowRounds w = onALine();
+        WindowRounds w = Check.onALine();
         w.lock(2, true);
         w.plan(2, 2);
         ends(w, 96, 0);
@@ -144,7 +130,7 @@ public final class PlansTest {
     }
 
     private static void promise37Looked() {
-        WindowRounds w = onALine();
+        WindowRounds w = Check.onALine();
         Check.due("no rows", w.looked(), NIL);
         w.book(0, 3);
         w.book(1, 1);
@@ -162,7 +148,7 @@ public final class PlansTest {
     }
 
     private static void workRunsOut() {
-        WindowRounds w = onALine();
+        WindowRounds w = Check.onALine();
         for (int i = 0; i < 74; i++) {
             w.improve(20);
         }

@@ -248,7 +248,7 @@ public final class RandomRunsTest {
     }
 
     public static void main(String[] args) throws Exception {
-        int runs = args.length > 0 ? Integer.parseInt(args[0]) : 250;
+        int runs = args.length > 0 ? Integer.parseInt(args[0]) : 600;
         int first = args.length > 1 ? Integer.parseInt(args[1]) : 0;
         Method[] all = WindowRounds.class.getDeclaredMethods();
         Arrays.sort(all, (a, b) -> a.getName().compareTo(b.getName()));

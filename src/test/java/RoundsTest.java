@@ -63,7 +63,9 @@ public final class RoundsTest {
         Check.due("HOME just so", w.rule(1, 2, 23), 1999);
         Check.due("LEAVE too late", w.rule(1, 1, 1), STATE);
         Check.due("as it was", w.round(1, 1), 0);
+        Check.due("nor could it leave later", w.round(1, 9), 0);
         Check.due("HOME later", w.rule(1, 2, 100), 23);
+        Check.due("it could leave later then", w.round(1, 9), 20);
         Check.due("LEAVE just so", w.rule(1, 1, 20), 0);
         Check.due("LEAVE too late for the STOP", w.rule(1, 1, 21), STATE);
         Check.due("another ROUND is as it likes", w.rule(0, 0, 0), 20);
@@ -246,22 +248,8 @@ public final class RoundsTest {
         Check.due("for nothing", w.told(0), 60);
     }
 
-    /** On a line: 2, 1, 3 goes there and back once more than it must. */
-    private static WindowRounds onALine() {
-        WindowRounds w = new WindowRounds();
-        w.stop(40, 32, 1, 0, 999, 0);
-        w.stop(48, 32, 1, 0, 999, 0);
-        w.stop(56, 32, 1, 0, 999, 0);
-        w.stop(32, 48, 1, 0, 999, 0);
-        w.put(1, 0, 0);
-        w.put(0, 0, 1);
-        w.put(2, 0, 2);
-        w.put(3, 1, 0);
-        return w;
-    }
-
     private static void promise15Improve() {
-        WindowRounds w = onALine();
+        WindowRounds w = Check.onALine();
         Check.due("n below", w.improve(0), BAD);
         Check.due("n above", w.improve(21), BAD);
         Check.due("n far below", w.improve(Integer.MIN_VALUE), BAD);
@@ -276,7 +264,7 @@ public final class RoundsTest {
     }
 
     private static void promise15ImproveByFixed() {
-        WindowRounds w = onALine();
+        WindowRounds w = Check.onALine();
         w.price(1, 10);
         Check.due("just once", w.improve(1), 1);
         Check.row(w, 0, 0, 1, 2);
@@ -332,7 +320,7 @@ public final class RoundsTest {
     }
 
     private static void promise17At() {
-        WindowRounds w = onALine();
+        WindowRounds w = Check.onALine();
         Check.row(w, 0, 1, 0, 2);
         Check.row(w, 1, 3);
         Check.row(w, 2);
@@ -344,7 +332,7 @@ public final class RoundsTest {
     }
 
     private static void promise18Told() {
-        WindowRounds w = onALine();
+        WindowRounds w = Check.onALine();
         w.stop(1, 1, 1, 1, 999, 1);
         w.stop(1, 1, 1, 1, 999, 1);
         w.price(1, 9);

@@ -129,6 +129,12 @@ public final class SeenTest {
         }
         Check.due("all, above", w.odds(0), 1);
         Check.due("all, below", w.odds(1), 1);
+        for (int only = 0; only < 4; only++) {
+            for (int r = 0; r < 4; r++) {
+                w.rule(r, 0, r == only ? 60 : r == 2 ? 8 : 0);
+            }
+            Check.due("all by one ROUND alone", w.odds(1), 1);
+        }
         w.fill();
         Check.due("all are in ROUNDS", w.odds(0), NO);
         Check.due("all are in ROUNDS", w.odds(1), NO);
@@ -226,10 +232,11 @@ public final class SeenTest {
         Check.due("no STOPS, above", w.chance(1, 0, 4, 0), 1);
         Check.due("no STOPS, below", w.chance(1, 0, 4, 1), 1);
         Check.due("m are counted", w.count(5), 8);
+        Check.due("eight more", w.chance(1, 8, 1, 1), 1);
         for (int r = 0; r < 4; r++) {
             w.rule(r, 0, 10);
         }
-        int spent = 8;
+        int spent = 9;
         int mixed = 0;
         int[] seeds = {0, 7, -3, Integer.MAX_VALUE - 1, 100, 200, 300};
         for (int seed : seeds) {

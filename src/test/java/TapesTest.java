@@ -121,17 +121,7 @@ public final class TapesTest {
     }
 
     private static void promise39TakenBySwap() {
-        WindowRounds w = new WindowRounds();
-        w.stop(62, 32, 10, 0, 999, 0);
-        w.stop(2, 32, 10, 0, 999, 0);
-        w.stop(61, 32, 10, 0, 999, 0);
-        w.stop(3, 32, 10, 0, 999, 0);
-        w.rule(2, 0, 0);
-        w.rule(3, 0, 0);
-        w.put(0, 1, 0);
-        w.put(3, 1, 1);
-        w.put(1, 0, 0);
-        w.put(2, 0, 1);
+        WindowRounds w = Check.ofTwoSides();
         Check.due("a SWAP", w.best(0), 3);
         taken(w, 3, CAST, CAST, 3, 3);
         Check.due("the SWAP is done", w.improve(1), 1);
