@@ -20,11 +20,14 @@ public final class CouldEdgesTest {
         promise21Refused();
         promise21OfOneRound();
         promise21FirstOfLike();
+        promise21BehindDearerOnes();
         promise21SecondBest();
         promise22Refused();
         promise22MoreThanNothing();
         promise22FirstOfLikes();
         promise22MovesOfLike();
+        promise22NotBeyondItsRow();
+        promise22PastLooseOnes();
         promise23Refused();
         promise23JustMay();
         promise23Locked();
@@ -33,6 +36,7 @@ public final class CouldEdgesTest {
         promise24JustMay();
         promise25Refused();
         promise25JustMay();
+        promise25JustMayOfOneRound();
         promise26Refused();
         promise26JustLate();
         promise26RoomIsNotAsked();
@@ -201,6 +205,27 @@ public final class CouldEdgesTest {
         Calls.due(w, 18, "cheapest", 2, 0, 2);
         Calls.due(w, 18, "cheapest", 2, 1, 2);
         Calls.due(w, 0, "cheapest", 2, -1, 0);
+    }
+
+    /** The CHEAPEST place may be behind dearer ones, and ahead of such. */
+    private static void promise21BehindDearerOnes() {
+        int[] xs = {52, 32, 47};
+        int[] ys = {32, 52, 62};
+        for (int i = 0; i < 3; i++) {
+            WindowRounds w = new WindowRounds();
+            w.stop(32, 62, 1, 0, 999, 0);
+            w.stop(62, 62, 1, 0, 999, 0);
+            w.put(0, 3, 0);
+            w.put(1, 3, 1);
+            w.stop(xs[i], ys[i], 1, 0, 999, 0);
+            int least = 0;
+            for (int k = 1; k < 3; k++) {
+                least = w.adds(2, 3, k) < w.adds(2, 3, least) ? k : least;
+            }
+            Calls.due(w, new int[] {2, 0, 1}[i], "cheapest", 2, 3, 1);
+            Calls.due(w, least, "cheapest", 2, 3, 1);
+            Calls.due(w, 0, "cheapest", 2, 3, 2);
+        }
     }
 
     /** "what its CHEAPEST of the second best ROUND ADDS, less what that of the best one does; 10000, if there is no second one". */
@@ -387,6 +412,61 @@ public final class CouldEdgesTest {
         }
     }
 
+    /**
+     * 1 is on the other side of 0 and 2, which are LOCKED: ahead of them 0 would be late, behind them 1 would. There is
+     * no place behind the last one where nothing is late.
+     */
+    private static void promise22NotBeyondItsRow() {
+        WindowRounds w = new WindowRounds();
+        w.stop(62, 32, 1, 0, 30, 0);
+        w.stop(22, 32, 1, 0, 70, 0);
+        w.stop(62, 32, 1, 0, 999, 9);
+        for (int s = 0; s < 3; s++) {
+            w.put(s, 1, s);
+            w.rule(s == 1 ? 3 : s, 0, 0);
+        }
+        w.rule(1, 0, 3);
+        w.lock(0, true);
+        w.lock(2, true);
+        Calls.due(w, MAY_NOT, "shift", 1, 1, 0);
+        Calls.due(w, MAY_NOT, "shift", 1, 1, 2);
+        Calls.due(w, BAD, "shift", 1, 1, 3);
+        Calls.due(w, NIL, "best", 0);
+        Calls.due(w, 0, "improve", 1);
+        w.set(1, 4, 79);
+        Calls.due(w, 60, "shift", 1, 1, 2);
+        Calls.due(w, 60, "best", 1);
+        Calls.due(w, 2, "best", 4);
+    }
+
+    /** Loose ones between the two that are to be swapped, and about them, don't matter. */
+    private static void promise22PastLooseOnes() {
+        int[] xs = {5, 62, 6, 2, 7, 61, 8, 3, 9};
+        int[] rounds = {NIL, 1, NIL, 0, NIL, 0, NIL, 1, NIL};
+        WindowRounds w = new WindowRounds();
+        for (int x : xs) {
+            w.stop(x, 32, 10, 0, 999, 0);
+        }
+        for (int s = 0; s < xs.length; s++) {
+            w.put(s, rounds[s], s > 3 ? 1 : 0);
+        }
+        w.rule(2, 0, 0);
+        w.rule(3, 0, 0);
+        int[] due = {3, 116, 1, 3, NIL};
+        for (int what = 0; what < 5; what++) {
+            Calls.due(w, due[what], "best", what);
+        }
+        w.lock(3, true);
+        w.lock(7, true);
+        Calls.due(w, NIL, "best", 0);
+        w.lock(7, false);
+        Calls.due(w, 5, "best", 2);
+        Calls.due(w, 7, "best", 3);
+        Calls.due(w, 1, "improve", 1);
+        Check.row(w, 0, 3, 7);
+        Check.row(w, 1, 1, 5);
+    }
+
     /** "NONE: round; BAD: i, j": i from 0, j to the last place, i below j. */
     private static void promise23Refused() {
         for (int r : BEYOND_ROUNDS) {
@@ -529,6 +609,15 @@ public final class CouldEdgesTest {
         Twins.asked(() -> toShift(10, 47, 11), 0, "shift", 0, 1, 1);
         Twins.asked(() -> toShift(10, 46, 11), MAY_NOT, "shift", 0, 1, 1);
         Twins.asked(() -> toShift(10, 47, 11), 0, "shift", 0, 2, 0);
+        Twins.Making noSlack = Twins.after(() -> toShift(10, 47, 11), w -> {
+            w.stop(42, 32, 0, 4, 14, 0);
+            w.put(2, 0, 1);
+            w.rule(0, 2, 24);
+        });
+        Calls.due(noSlack.make(), 0, "round", 0, 9);
+        Twins.asked(noSlack, -20, "shift", 0, 2, 0);
+        Twins.asked(noSlack, -20, "shift", 2, 2, 0);
+        Twins.asked(Twins.after(noSlack, w -> w.set(0, 4, 10)), -20, "shift", 2, 3, 0);
         Twins.asked(() -> toShift(10, 46, 10), BAD, "shift", 0, 1, 2);
         Twins.asked(() -> toShift(10, 46, 10), BAD, "shift", 0, 0, 0);
     }
@@ -577,6 +666,29 @@ public final class CouldEdgesTest {
         Twins.asked(heavier, 0, "swap", 0, 1);
         Twins.asked(Twins.after(heavier, w -> w.set(0, 2, 7)), MAY_NOT, "swap", 0, 1);
         Twins.asked(Twins.after(heavier, w -> w.set(0, 2, 7)), MAY_NOT, "swap", 1, 0);
+    }
+
+    /** None waits: 0 comes first, 1 behind it 9 further, and the other way about just in time. */
+    private static WindowRounds noneWaits(int lastOf0, int lastOf1, int home) {
+        WindowRounds w = new WindowRounds();
+        w.stop(42, 32, 1, 0, lastOf0, 3);
+        w.stop(37, 36, 1, 0, lastOf1, 5);
+        w.put(0, 3, 0);
+        w.put(1, 3, 1);
+        w.rule(3, 2, home);
+        return w;
+    }
+
+    private static void promise25JustMayOfOneRound() {
+        for (Object[] call : new Object[][] {{"swap", 0, 1}, {"swap", 1, 0}, {"turn", 3, 0, 1}, {"shift", 0, 3, 1},
+            {"shift", 1, 3, 0}}) {
+            String name = (String) call[0];
+            Object[] all = java.util.Arrays.copyOfRange(call, 1, call.length);
+            Twins.asked(() -> noneWaits(23, 22, 36), 0, name, all);
+            Twins.asked(() -> noneWaits(22, 22, 36), MAY_NOT, name, all);
+            Twins.asked(() -> noneWaits(999, 22, 36), 0, name, all);
+        }
+        Calls.due(noneWaits(999, 22, 36), 0, "round", 3, 9);
     }
 
     /** "NONE; BAD: d (0 .. 1999)". */

@@ -23,10 +23,12 @@ public final class RoundEdgesTest {
         promise11SixteenInOne();
         promise12Refused();
         promise12CostIsLess();
+        promise12WhatStaysIsJustSo();
         promise13Refused();
         promise13HowMany();
         promise14AllOrNothing();
         promise14Regret();
+        promise14GreatestOfAnyOrder();
         promise14LikeRegrets();
         promise14TillNoneCould();
         promise15Ranges();
@@ -334,6 +336,34 @@ public final class RoundEdgesTest {
         Calls.due(w, 0, "of", 1, 7);
     }
 
+    /** What stays may have no SLACK at all: it HOLDS, and so the others may be taken, by take(), clear() and a PLAN. */
+    private static WindowRounds ofTight() {
+        WindowRounds w = new WindowRounds();
+        w.stop(42, 32, 1, 0, 10, 0);
+        w.stop(42, 42, 1, 0, 999, 0);
+        w.put(0, 2, 0);
+        w.put(1, 2, 1);
+        w.rule(2, 2, 40);
+        return w;
+    }
+
+    private static void promise12WhatStaysIsJustSo() {
+        Calls.due(ofTight(), 20, "take", 1);
+        Calls.due(ofTight(), 0, "take", 0);
+        WindowRounds w = ofTight();
+        w.lock(0, true);
+        Calls.due(w, 1, "clear", 2);
+        Check.row(w, 2, 0);
+        Calls.due(w, 0, "clear", 2);
+        w = ofTight();
+        w.plan(2, 1);
+        Calls.due(w, 20, "ends", 0);
+        w.lock(1, true);
+        Calls.due(w, 1, "clear", 2);
+        Check.row(w, 2, 1);
+        Calls.due(w, 40, "round", 2, 6);
+    }
+
     private static void promise13Refused() {
         for (int r : BEYOND_ROUNDS) {
             Twins.refused(Twins::busy, NONE, "clear", r);
@@ -421,6 +451,29 @@ public final class RoundEdgesTest {
         Calls.due(alone, 10000, "cheapest", 1, -1, 3);
         Calls.due(alone, 1, "fill");
         Check.row(alone, 0, 3);
+    }
+
+    /** ROUND 0 has room for the one of the greatest REGRET, ROUND 1 then for the one that ADDS least: whatever their numbers are. */
+    private static void promise14GreatestOfAnyOrder() {
+        int[][] orders = {{34, 37, 40}, {34, 40, 37}, {37, 34, 40}, {37, 40, 34}, {40, 34, 37}, {40, 37, 34}};
+        for (int[] xs : orders) {
+            WindowRounds w = new WindowRounds();
+            w.stop(42, 32, 1, 0, 999, 0);
+            w.stop(22, 32, 1, 0, 999, 0);
+            w.put(0, 0, 0);
+            w.put(1, 1, 0);
+            for (int r = 0; r < 4; r++) {
+                w.rule(r, 0, r < 2 ? 2 : 0);
+            }
+            for (int x : xs) {
+                int s = w.stop(x, 32, 1, 0, 999, 0);
+                Calls.due(w, 2 * (x - 32), "cheapest", s, -1, 3);
+            }
+            Calls.due(w, 2, "fill");
+            for (int s = 2; s < 5; s++) {
+                Check.due("the ROUND of what is at " + w.of(s, 0), w.of(s, 6), xs[s - 2] == 40 ? 0 : xs[s - 2] == 34 ? 1 : NIL);
+            }
+        }
     }
 
     /** "Of like ones that which ADDS less, then the least number". */

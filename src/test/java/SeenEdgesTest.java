@@ -27,6 +27,7 @@ public final class SeenEdgesTest {
         promise32Refused();
         promise32Room();
         promise32Seeds();
+        promise32JustSo();
         promise32ChangesNothing();
         promise33Refused();
         promise33SeedsGoRound();
@@ -395,6 +396,52 @@ public final class SeenEdgesTest {
             w.rule(r, 2, 300 + 40 * r);
         }
         return w;
+    }
+
+    /**
+     * "x % 64, y % 64, LOAD % 10, FIRST % 400, then LAST that and 20 and % 200, STAY % 20": of one that is drawn, LEAVE,
+     * ROOM and HOME are just so that it COULD be put, and by 1 not so.
+     */
+    private static void promise32JustSo() {
+        int leaves = 0;
+        for (int seed = -300; seed < 300; seed++) {
+            int[] f = new int[6];
+            int z = seed * 7654321;
+            for (int what = 0; what < 6; what++) {
+                z = z * 1103515245 + 12345;
+                f[what] = (z >>> 9) % new int[] {64, 64, 10, 400, 200, 20}[what];
+            }
+            int way = Math.abs(f[0] - 32) + Math.abs(f[1] - 32);
+            int last = f[3] + 20 + f[4];
+            int leave = Math.max(last - way, 0);
+            int back = last - way >= 0 ? last + f[5] + way : 0;
+            leaves += last - way >= 0 ? 1 : 0;
+            WindowRounds w = new WindowRounds();
+            everyRound(w, 1, leave);
+            everyRound(w, 0, f[2]);
+            everyRound(w, 2, back);
+            Calls.due(w, last - way >= 0 ? 0 : 1, "drawn", seed * 7654321, 1);
+            everyRound(w, 0, f[2] - 1);
+            Calls.due(w, f[2] > 0 || last - way < 0 ? 1 : 0, "drawn", seed * 7654321, 1);
+            everyRound(w, 0, 60);
+            everyRound(w, 2, back - 1);
+            Calls.due(w, 1, "drawn", seed * 7654321, 1);
+            everyRound(w, 2, 1999);
+            everyRound(w, 1, leave + 1);
+            Calls.due(w, 1, "drawn", seed * 7654321, 1);
+            everyRound(w, 1, 0);
+            everyRound(w, 2, Math.max(way, f[3]) + f[5] + way);
+            Calls.due(w, last - way >= 0 ? 0 : 1, "drawn", seed * 7654321, 1);
+            everyRound(w, 2, Math.max(way, f[3]) + f[5] + way - 1);
+            Calls.due(w, 1, "drawn", seed * 7654321, 1);
+        }
+        Check.holds("nearly all can be reached", leaves > 500);
+    }
+
+    private static void everyRound(WindowRounds w, int what, int v) {
+        for (int r = 0; r < 4; r++) {
+            w.rule(r, what, v);
+        }
     }
 
     /** "DRAWN by a SEED, in thought": nothing comes but WORK. */
