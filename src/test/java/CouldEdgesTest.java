@@ -76,28 +76,7 @@ public final class CouldEdgesTest {
 
     /** "NONE: stop, round; STATE: it is in a ROUND; BAD: k; -5: it COULD not be put there": the first that is named. */
     private static void promise20Refused() {
-        for (int s : BEYOND_STOPS) {
-            Twins.refused(Twins::busy, NONE, "adds", s, 0, 0);
-            Twins.refused(Twins::busy, NONE, "adds", s, 4, 99);
-        }
-        for (int r : BEYOND_ROUNDS) {
-            Twins.refused(Twins::busy, NONE, "adds", 5, r, 0);
-            Twins.refused(Twins::busy, NONE, "adds", 0, r, 0);
-            Twins.refused(Twins::busy, NONE, "adds", 5, r, 99);
-        }
-        for (int s = 0; s < 4; s++) {
-            Twins.refused(Twins::busy, STATE, "adds", s, 2, 0);
-            Twins.refused(Twins::busy, STATE, "adds", s, 0, -1);
-        }
-        for (int r = 0; r < 4; r++) {
-            for (int k : new int[] {-1, SIZES[r] + 1, 16, LEAST, MOST}) {
-                Twins.refused(Twins::busy, BAD, "adds", 5, r, k);
-                Twins.refused(Twins::busy, BAD, "adds", 4, r, k);
-            }
-            for (int k = 0; k <= SIZES[r]; k++) {
-                Twins.asked(Twins::busy, NIL, "adds", 4, r, k);
-            }
-        }
+        RoundEdgesTest.refusedAtPlaces("adds", NIL);
     }
 
     /** 0 in ROUND 1 (42,32, till last, LOAD 5), 1 loose (37,32, stays 4, LOAD 6): ahead of 0 or behind it. */
@@ -262,8 +241,8 @@ public final class CouldEdgesTest {
         }
         int[] due = {1, 4, 0, 0, 1};
         for (int what = 0; what < 5; what++) {
-            Calls.due(Twins.busy(), due[what], "best", what);
-            Calls.due(new WindowRounds(), NIL, "best", what);
+            Twins.thought(Twins::busy, due[what], 1, "best", what);
+            Twins.thought(WindowRounds::new, NIL, 1, "best", what);
             Twins.refused(() -> Twins.spent(1500), FULL, "best", what);
         }
     }

@@ -34,6 +34,7 @@ public final class RoundEdgesTest {
         promise15Ranges();
         promise15MoreThanNothing();
         promise15HowMany();
+        promise15NoneIsLeft();
         promise16Refused();
         promise16WithoutStops();
         promise16Tight();
@@ -189,28 +190,33 @@ public final class RoundEdgesTest {
 
     /** "NONE: stop, round; STATE: it is in a ROUND; BAD: k; STATE: it doesn't HOLD then": the first that is named. */
     private static void promise11Refused() {
+        refusedAtPlaces("put", STATE);
+    }
+
+    /** put() and adds() are refused alike, but where it doesn't HOLD then. */
+    static void refusedAtPlaces(String name, int notHolding) {
         for (int s : new int[] {-1, 6, 16, LEAST, MOST}) {
-            Twins.refused(Twins::busy, NONE, "put", s, 0, 0);
-            Twins.refused(Twins::busy, NONE, "put", s, 4, 99);
+            Twins.refused(Twins::busy, NONE, name, s, 0, 0);
+            Twins.refused(Twins::busy, NONE, name, s, 4, 99);
         }
         for (int r : BEYOND_ROUNDS) {
-            Twins.refused(Twins::busy, NONE, "put", 5, r, 0);
-            Twins.refused(Twins::busy, NONE, "put", 0, r, 0);
-            Twins.refused(Twins::busy, NONE, "put", 5, r, 99);
+            Twins.refused(Twins::busy, NONE, name, 5, r, 0);
+            Twins.refused(Twins::busy, NONE, name, 0, r, 0);
+            Twins.refused(Twins::busy, NONE, name, 5, r, 99);
         }
         for (int s = 0; s < 4; s++) {
-            Twins.refused(Twins::busy, STATE, "put", s, 2, 0);
-            Twins.refused(Twins::busy, STATE, "put", s, 2, 1);
-            Twins.refused(Twins::busy, STATE, "put", s, 0, -1);
+            Twins.refused(Twins::busy, STATE, name, s, 2, 0);
+            Twins.refused(Twins::busy, STATE, name, s, 2, 1);
+            Twins.refused(Twins::busy, STATE, name, s, 0, -1);
         }
         int[] sizes = {3, 1, 0, 0};
         for (int r = 0; r < 4; r++) {
             for (int k : new int[] {-1, sizes[r] + 1, 16, LEAST, MOST}) {
-                Twins.refused(Twins::busy, BAD, "put", 5, r, k);
-                Twins.refused(Twins::busy, BAD, "put", 4, r, k);
+                Twins.refused(Twins::busy, BAD, name, 5, r, k);
+                Twins.refused(Twins::busy, BAD, name, 4, r, k);
             }
             for (int k = 0; k <= sizes[r]; k++) {
-                Twins.refused(Twins::busy, STATE, "put", 4, r, k);
+                Twins.refused(Twins::busy, notHolding, name, 4, r, k);
             }
         }
     }
@@ -588,6 +594,23 @@ public final class RoundEdgesTest {
             w.put(s, s % 4, s / 4);
         }
         return w;
+    }
+
+    /** "or till there is none", "as long as one .. COULD be put": what does nothing changes nothing but WORK. */
+    private static void promise15NoneIsLeft() {
+        Twins.Making done = Twins.after(Twins::busy, w -> {
+            w.fill();
+            w.improve(20);
+            w.best(0);
+        });
+        Calls.due(done.make(), NIL, "best", 0);
+        Twins.thought(done, 0, 1, "fill");
+        Twins.thought(done, NIL, 1, "best", 0);
+        for (int n : new int[] {1, 7, 20}) {
+            Twins.thought(done, 0, n, "improve", n);
+            Twins.thought(WindowRounds::new, 0, n, "improve", n);
+        }
+        Twins.thought(WindowRounds::new, 0, 1, "fill");
     }
 
     private static void promise16Refused() {

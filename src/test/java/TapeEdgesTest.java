@@ -237,8 +237,13 @@ public final class TapeEdgesTest {
         }
     }
 
-    /** "THE IMAGE is taken": the last one taken, as all is then. */
+    /** "THE IMAGE is taken": the last one taken, as all is then; nothing else changes. */
     private static void promise40KeepsAsItIsThen() {
+        for (Twins.Making making : new Twins.Making[] {WindowRounds::new, Twins::busy, Twins::full}) {
+            Twins.alikeNow("image()", Twins.after(making, WindowRounds::image), making);
+            Twins.alike("image() twice", Twins.after(Twins.after(making, WindowRounds::image), WindowRounds::image),
+                    Twins.after(making, WindowRounds::image));
+        }
         for (int many = 0; many <= 16; many++) {
             WindowRounds w = new WindowRounds();
             for (int s = 0; s < many; s++) {
