@@ -40,6 +40,8 @@ public final class CouldEdgesTest {
         promise26Refused();
         promise26JustLate();
         promise26RoomIsNotAsked();
+        promise26WithoutStops();
+        promise26EmptiedRounds();
         promise27Refused();
         promise27Like();
         Check.end("CouldEdgesTest");
@@ -745,6 +747,47 @@ public final class CouldEdgesTest {
         w.clear(2);
         w.rule(2, 0, 0);
         Calls.due(w, NIL, "late", 2, 969);
+    }
+
+    /** HOLDS: "one without STOPS always does"; LATE: "-5: none": by each d, however far behind HOME that is. */
+    private static void promise26WithoutStops() {
+        int calls = 400;
+        for (int from = 0; from < 2000; from += calls) {
+            WindowRounds w = homeAheadOfLeaving(new WindowRounds());
+            for (int d = from; d < from + calls; d++) {
+                Calls.due(w, NIL, "late", d % 4, d);
+            }
+        }
+        for (int d : new int[] {-1, 2000, LEAST, MOST}) {
+            Twins.refused(() -> homeAheadOfLeaving(new WindowRounds()), BAD, "late", 0, d);
+        }
+        for (int r : BEYOND_ROUNDS) {
+            Twins.refused(() -> homeAheadOfLeaving(new WindowRounds()), NONE, "late", r, 0);
+            Twins.refused(() -> homeAheadOfLeaving(new WindowRounds()), NONE, "late", r, 2000);
+        }
+    }
+
+    /** HOME 0 and LEAVE 999 of each ROUND that has no STOPS. */
+    private static WindowRounds homeAheadOfLeaving(WindowRounds w) {
+        for (int r = 0; r < 4; r++) {
+            w.rule(r, 2, 0);
+            w.rule(r, 1, 999);
+        }
+        return w;
+    }
+
+    /** It may have had STOPS: what is taken, cleared, shifted away or undone isn't late any more. */
+    private static void promise26EmptiedRounds() {
+        for (Twins.Deed deed : Twins.EMPTYINGS) {
+            WindowRounds w = Check.onALine();
+            Calls.due(w, 0, "late", 1, 1999);
+            deed.on(w);
+            Calls.due(w, 0, "round", 1, 3);
+            homeAheadOfLeaving(w);
+            for (int d : new int[] {0, 1, 999, 1000, 1998, 1999}) {
+                Calls.due(w, NIL, "late", 1, d);
+            }
+        }
     }
 
     /** "The k-th of DUE. BAD: there is none". */

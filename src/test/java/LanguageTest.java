@@ -11,22 +11,17 @@ import java.util.TreeSet;
 import java.util.regex.Matcher;
 import java.util.regex.Pattern;
 
-/** The face as the document has it, and what LANGUAGE.md rules out, as far as a look at the source and the class tells. */
+/** The face as the document has it, and what LANGUAGE.md says of classes and fields, by the class as it is compiled. */
 public final class LanguageTest {
-    private static final Path SOURCE = Path.of("src/main/java/WindowRounds.java");
     private static final Path DOCUMENT = Path.of("../shared/DOC.md");
 
     private LanguageTest() {
     }
 
     public static void main(String[] args) throws Exception {
-        String source = Files.readString(SOURCE).replaceAll("(?s)/\\*.*?\\*/", "").replaceAll("//[^\n]*", "");
         face();
         constants();
         classes();
-        words(source);
-        madeInFieldsAlone(source);
-        lengths(source);
         Check.end("LanguageTest");
     }
 
@@ -108,46 +103,6 @@ public final class LanguageTest {
         for (Executable e : c.getDeclaredMethods()) {
             Check.holds("seven parameters: " + e, e.getParameterCount() <= 7);
             Check.holds("not of Object's: " + e, !Set.of("equals", "hashCode", "toString").contains(e.getName()));
-        }
-    }
-
-    private static void words(String source) {
-        String[] none = {"\\bthrow", "\\btry\\b", "\\bcatch\\b", "\\bsynchronized\\b", "\\bassert\\b", "\\bimport\\b",
-            "\\bpackage\\b", "\\binstanceof\\b", "->", "::", "\"", "\\bdouble\\b", "\\bfloat\\b", "Exact\\b",
-            "\\bvolatile\\b", "while \\(true\\)", "for \\(;", "; ;", "\\bnative\\b", "\\benum\\b", "@[A-Z]"};
-        for (String word : none) {
-            Matcher m = Pattern.compile(word).matcher(source);
-            Check.holds("no " + word, !m.find());
-        }
-        Check.holds("signs 1 to 127", source.chars().allMatch(c -> c == '\n' || c >= 32 && c < 127));
-        Matcher library = Pattern.compile("\\b([A-Z][a-z]\\w*)\\.(\\w+)").matcher(source);
-        while (library.find()) {
-            Check.holds("of the library: " + library.group(),
-                    Set.of("Long.MIN_VALUE", "System.arraycopy").contains(library.group()));
-        }
-    }
-
-    /** No call makes an object or an array, so that the one room is never filled by calls. */
-    private static void madeInFieldsAlone(String source) {
-        for (String line : source.split("\n")) {
-            Check.holds("made in a field: " + line, !line.contains("new ")
-                    || line.matches("    private final \\w+ \\w+ = new \\w+\\(\\);")
-                    || line.matches("        final [\\w\\[\\]]+ \\w+ = new .*;"));
-        }
-    }
-
-    private static void lengths(String source) {
-        int open = -1;
-        int at = 0;
-        for (String line : source.split("\n")) {
-            at++;
-            if (line.matches("( {4}| {8})[\\w\\[\\] ]+\\(.*\\) \\{")) {
-                open = at;
-            }
-            if (line.matches("( {4}| {8})\\}") && open > 0) {
-                Check.holds("some sixty lines, to line " + at, at - open <= 60);
-                open = -1;
-            }
         }
     }
 }

@@ -107,15 +107,34 @@ public final class TapeEdgesTest {
         Calls.due(withBytes(-3), 0, "judge", 1, 4, 0);
     }
 
-    /** "-5: none, or it has none": named ahead of what a TAPE lacks. */
+    /** "-5: none, or it has none": named ahead of what a TAPE lacks (its end, a place, all of it); NONE and CAST are ahead of it. */
     private static void promise38WithoutStops() {
-        WindowRounds w = withBytes(0, 1, 2);
-        for (int i : new int[] {0, 2, 3, 60, -1, LEAST, MOST}) {
-            Calls.due(w, NIL, "judge", 3, 4, i);
+        for (Twins.Deed deed : Twins.EMPTYINGS) {
+            WindowRounds w = withBytes(0, 1, 2);
+            Calls.due(w, 100, "judge", 1, 4, 3);
+            deed.on(w);
+            Calls.due(w, 0, "round", 1, 3);
+            w.tape(0, 0, 0);
+            for (int sort = 1; sort < 4; sort++) {
+                w.tape(sort, sort, 3);
+            }
+            for (int i : new int[] {0, 2, 3, 60, -1, LEAST, MOST}) {
+                judgeWithoutStops(w, 1, i);
+                judgeWithoutStops(w, 3, i);
+            }
         }
-        w.clear(0);
-        Calls.due(w, NIL, "judge", 0, 4, 0);
-        Calls.due(w, NIL, "judge", 0, 4, 5);
+    }
+
+    /** TAPE 4 holds three bytes, 0 a row of none, 5 nothing, 1 to 3 are of other sorts. */
+    private static void judgeWithoutStops(WindowRounds w, int round, int i) {
+        Calls.due(w, NIL, "judge", round, 4, i);
+        Calls.due(w, NIL, "judge", round, 0, i);
+        Calls.due(w, NIL, "judge", round, 5, i);
+        for (int t = 1; t < 4; t++) {
+            Calls.due(w, CAST, "judge", round, t, i);
+        }
+        Calls.due(w, NONE, "judge", round, 6, i);
+        Calls.due(w, NONE, "judge", round + 4, 1, i);
     }
 
     private static void promise38SixteenStops() {

@@ -13,6 +13,9 @@ public final class Twins {
         void on(WindowRounds w);
     }
 
+    /** Each leaves ROUND 1 of Check.onALine() without STOPS: taken, cleared, shifted to another one, or undone. */
+    static final Deed[] EMPTYINGS = {w -> w.take(3), w -> w.clear(1), Twins::shiftAway, Twins::undoPut};
+
     private interface Look {
         void at(WindowRounds w, List<String> told);
     }
@@ -170,6 +173,18 @@ public final class Twins {
         tell(w, told, "undo");
         present(w, told);
         each(w, told, "ends", 2);
+    }
+
+    private static void shiftAway(WindowRounds w) {
+        w.price(1, 99);
+        w.improve(1);
+    }
+
+    private static void undoPut(WindowRounds w) {
+        w.take(3);
+        w.image();
+        w.put(3, 1, 0);
+        w.undo();
     }
 
     private static void feed(WindowRounds w, String text) {
