@@ -28,6 +28,7 @@ public final class CouldEdgesTest {
         promise22MovesOfLike();
         promise22NotBeyondItsRow();
         promise22PastLooseOnes();
+        promise22NotByLooseOnes();
         promise23Refused();
         promise23JustMay();
         promise23Locked();
@@ -446,6 +447,27 @@ public final class CouldEdgesTest {
         Calls.due(w, 1, "improve", 1);
         Check.row(w, 0, 3, 7);
         Check.row(w, 1, 1, 5);
+    }
+
+    /** "a SWAP of two STOPS (in ROUNDS ..)": 0 and 4 are in none, though either would stand better where 2 must be. */
+    private static void promise22NotByLooseOnes() {
+        WindowRounds w = new WindowRounds();
+        w.stop(52, 32, 1, 0, 999, 0);
+        w.stop(52, 32, 1, 0, 20, 0);
+        w.stop(32, 32, 1, 40, 40, 0);
+        w.stop(52, 32, 1, 60, 60, 0);
+        w.stop(52, 32, 1, 0, 999, 0);
+        for (int s = 1; s < 4; s++) {
+            w.put(s, 0, s - 1);
+        }
+        for (int r = 1; r < 4; r++) {
+            w.rule(r, 0, 0);
+        }
+        Calls.due(w, STATE, "swap", 0, 2);
+        Calls.due(w, STATE, "swap", 2, 4);
+        Calls.due(w, NIL, "best", 0);
+        Calls.due(w, 0, "improve", 1);
+        Check.row(w, 0, 1, 2, 3);
     }
 
     /** "NONE: round; BAD: i, j": i from 0, j to the last place, i below j. */
